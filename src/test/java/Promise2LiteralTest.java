@@ -41,16 +41,16 @@ final class Promise2LiteralTest {
         for (int place = 0; place < 8; place++) {
             LzssFlags x = new LzssFlags();
             // Pairs around the literal leave its bit alone in the flag byte.
-            int after = 0;
+            int refused = 0;
             for (int k = 0; k < 8; k++) {
                 if (k == place) {
                     x.literal(7);
                 } else if (x.pair(0, 3) < 0) {
-                    after++;
+                    refused++;
                 }
             }
             CHECKS.due("flag byte, literal at place " + place, x.out(0), 1 << place);
-            CHECKS.due("pairs without room, literal at place " + place, after, 0);
+            CHECKS.due("pairs without room, literal at place " + place, refused, 0);
         }
     }
 
