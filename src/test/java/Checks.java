@@ -2,12 +2,18 @@
 final class Checks {
     private int asked = 0;
     private int wrong = 0;
+    private String sentence = "";
+
+    /** The words of the document that the checks from here on hold it to. */
+    void sentence(String words) {
+        sentence = "\"" + words + "\": ";
+    }
 
     void due(String what, int got, int want) {
         asked++;
         if (got != want) {
             wrong++;
-            System.out.println(what + " answered " + got + ", due is " + want);
+            System.out.println(sentence + what + " answered " + got + ", due is " + want);
         }
     }
 
@@ -15,7 +21,7 @@ final class Checks {
         asked++;
         if (!condition) {
             wrong++;
-            System.out.println("does not hold: " + what);
+            System.out.println(sentence + "does not hold: " + what);
         }
     }
 
@@ -29,6 +35,33 @@ final class Checks {
         for (int i = bytes.length; i < 20; i++) {
             due(when + ": out(" + i + ")", x.out(i), -1);
         }
+    }
+
+    /** That x is to be seen where the items of these letters leave it. */
+    void stands(String when, LzssFlags x, String letters) {
+        state(when, x, Fillings.flagAt(letters), Fillings.layout(letters));
+    }
+
+    /**
+     * That x goes on from these letters with literals as it should, until it is full.
+     * The mask cannot be read, but it decides the bits and the room of what comes next.
+     * Nothing is read before the end, lest the reading hide or do what is looked for.
+     */
+    void goesOn(String when, LzssFlags x, String letters) {
+        String all = letters;
+        while (Fillings.literalFits(all)) {
+            all += "l";
+            due(when + ", on to " + all, Fillings.put(x, all, all.length() - 1),
+                Fillings.bytes(all));
+        }
+        due(when + ", on past " + all, x.literal(0), -1);
+        stands(when + ", on to " + all, x, all);
+    }
+
+    /** That a refused call, or calls on other objects, left x alone; x is used up. */
+    void stayed(String when, LzssFlags x, String letters) {
+        stands(when, x, letters);
+        goesOn(when, x, letters);
     }
 
     void end() {
