@@ -10,6 +10,7 @@ final class EdgesPromise3Test {
         {Integer.MIN_VALUE, -3, -1, 0, 1, 2, 19, 20, 259, Integer.MAX_VALUE};
 
     public static void main(String[] args) {
+        anyTwoIntsAreTaken();
         firstGroundDecides();
         offsetOutside();
         lengthOutside();
@@ -29,6 +30,17 @@ final class EdgesPromise3Test {
         literalAfterARefusedPair();
         earlierBytesStay();
         CHECKS.end();
+    }
+
+    private static void anyTwoIntsAreTaken() {
+        CHECKS.sentence("pair(int off, int len) takes any two ints.");
+        for (int off : Ints.SPREAD) {
+            for (int len : Ints.SPREAD) {
+                int due = off < 0 || off > 4095 ? -2 : len < 3 || len > 18 ? -3 : 3;
+                CHECKS.due("fresh: pair(" + off + ", " + len + ")",
+                    new LzssFlags().pair(off, len), due);
+            }
+        }
     }
 
     private static void firstGroundDecides() {
@@ -132,8 +144,8 @@ final class EdgesPromise3Test {
     }
 
     private static void refusedPairChangesNothing() {
-        CHECKS.sentence("A refused call, for whichever ground, changes nothing: n, flagAt, mask and "
-            + "every byte stay as they were, and no flag byte is opened.");
+        CHECKS.sentence("A refused call, for whichever ground, changes nothing: n, flagAt, mask "
+            + "and every byte stay as they were, and no flag byte is opened.");
         for (String letters : Fillings.ALL) {
             LzssFlags wrongOffsets = Fillings.made(letters);
             for (int off : WRONG_OFFSETS) {
@@ -217,8 +229,8 @@ final class EdgesPromise3Test {
     }
 
     private static void roomWithAFlagByteOpen() {
-        CHECKS.sentence("With a flag byte open (mask not 0), the call needs 2 bytes: it is accepted "
-            + "when n is at most 14 and refused when n is 15 or 16.");
+        CHECKS.sentence("With a flag byte open (mask not 0), the call needs 2 bytes: it is "
+            + "accepted when n is at most 14 and refused when n is 15 or 16.");
         for (String letters : Fillings.OPEN) {
             int n = Fillings.bytes(letters);
             CHECKS.due("n = " + n + ", pair after " + letters, Fillings.made(letters).pair(0, 3),

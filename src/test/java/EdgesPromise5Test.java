@@ -12,7 +12,8 @@ final class EdgesPromise5Test {
     }
 
     private static void flagBytesAreCounted() {
-        CHECKS.sentence("size() answers n, the number of bytes written so far, flag bytes included");
+        CHECKS.sentence("size() answers n, the number of bytes written so far, flag bytes "
+            + "included");
         for (String letters : Fillings.ALL) {
             LzssFlags x = Fillings.made(letters);
             int n = 0;
