@@ -3,11 +3,24 @@ final class EdgesPromise4Test {
     private static final Checks CHECKS = new Checks();
 
     public static void main(String[] args) {
+        anyIntIsTaken();
         writtenBytesAreNeverNegative();
         flagBytesAreAnsweredWhileUnfinished();
         everyOtherIndexAnswersMinusOne();
         changesNothing();
         CHECKS.end();
+    }
+
+    private static void anyIntIsTaken() {
+        CHECKS.sentence("out(int i) takes any int.");
+        for (String letters : new String[] {"", "l", "llllllll", "lllppppp", "lppppppp"}) {
+            LzssFlags x = Fillings.made(letters);
+            int[] due = Fillings.layout(letters);
+            for (int i : Ints.SPREAD) {
+                CHECKS.due("out(" + i + ") after " + letters, x.out(i),
+                    i >= 0 && i < due.length ? due[i] : -1);
+            }
+        }
     }
 
     private static void writtenBytesAreNeverNegative() {

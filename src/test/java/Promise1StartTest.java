@@ -50,6 +50,10 @@ final class Promise1StartTest {
         Class<?> type = LzssFlags.class;
         CHECKS.holds("public final class",
             Modifier.isPublic(type.getModifiers()) && Modifier.isFinal(type.getModifiers()));
+        // What is inherited or nested would be visible members too.
+        CHECKS.holds("extends no class of its own", type.getSuperclass() == Object.class);
+        CHECKS.due("interfaces", type.getInterfaces().length, 0);
+        CHECKS.due("nested classes", type.getDeclaredClasses().length, 0);
         Set<String> visible = new TreeSet<>();
         for (Method m : type.getDeclaredMethods()) {
             if (!Modifier.isPrivate(m.getModifiers())) {
